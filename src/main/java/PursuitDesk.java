@@ -412,7 +412,7 @@ public final class PursuitDesk {
      * one goes: an edge, staying, what searchers leave open and what they close are all such sets.
      */
     private static final class Ways {
-        private static final int ROW = (1 << MOST_NODES) - 1;
+        private static final long ROW = (1L << MOST_NODES) - 1;
         private static final long ALL_TO_0 = 1L + (1L << 6) + (1L << 12) + (1L << 18) + (1L << 24) + (1L << 30);
 
         private Ways() {
@@ -443,18 +443,29 @@ public final class PursuitDesk {
             return (ALL_TO_0 << to) | way(to, from);
         }
 
+        /** The nodes to which one can go from this node. */
         static int from(long ways, int node) {
-            return (int) (ways >>> (MOST_NODES * node)) & ROW;
+            return (int) (ways >>> (MOST_NODES * node) & ROW);
+        }
+
+        static long onlyFrom(long ways, int set) {
+            long rows = 0;
+            for (int node = 0; node < MOST_NODES; node++) {
+                if (contains(set, node)) {
+                    rows |= ROW << (MOST_NODES * node);
+                }
+            }
+            return ways & rows;
+        }
+
+        /** The nodes to which any way leads: all rows laid onto one, without a loop since searches ask this most. */
+        static int ends(long ways) {
+            long half = ways | ways >>> (3 * MOST_NODES);
+            return (int) ((half | half >>> MOST_NODES | half >>> (2 * MOST_NODES)) & ROW);
         }
 
         static int spread(long ways, int belief) {
-            int reached = 0;
-            for (int node = 0; node < MOST_NODES; node++) {
-                if (contains(belief, node)) {
-                    reached |= from(ways, node);
-                }
-            }
-            return reached;
+            return ends(onlyFrom(ways, belief));
         }
     }
 
@@ -714,7 +725,6 @@ public final class PursuitDesk {
         int nodes;
         private long paths;
         int searchers;
-        private int belief;
         final int[] at = new int[MOST_SEARCHERS];
 
         /** Is told each situation to which a turn can lead, by rising orders of searcher 0, then 1, then 2. */
@@ -761,14 +771,13 @@ public final class PursuitDesk {
 
         final void expand(int situation) {
             placeSearchers(situation);
-            belief = situation % BELIEFS;
-            giveOrders(0, paths, 0, 0);
+            giveOrders(0, Ways.onlyFrom(paths, situation % BELIEFS), 0, 0);
         }
 
-        /** Gives every possible order to this searcher and, at most three deep, to those behind it. */
+        /** Gives every order to this searcher and, at most three deep, to those behind it; the ways are the evader's. */
         private void giveOrders(int searcher, long ways, int reached, int moves) {
             if (searcher >= searchers || searcher >= MOST_SEARCHERS) {
-                arrive(reached * BELIEFS + Ways.spread(ways, belief), moves);
+                arrive(reached * BELIEFS + Ways.ends(ways), moves);
                 return;
             }
             int from = at[searcher];

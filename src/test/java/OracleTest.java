@@ -70,7 +70,7 @@ public final class OracleTest {
         "beliefAfter", "evader", "searcher", "count", "neighbours", "belief"};
     private static final String[] SELDOM = {
         "reset", "lay", "release", "leastSearchers", "bestTurns", "type", "clearText", "fault", "text", "undo",
-        "setNews", "plan"};
+        "setNews", "plan", "back", "back", "back"};
 
     private void step() {
         String name = random.nextInt(10) == 0 ? SELDOM[random.nextInt(SELDOM.length)] : OFTEN[random.nextInt(OFTEN.length)];
@@ -94,8 +94,22 @@ public final class OracleTest {
             case "reset" -> call(name, strange(2 + random.nextInt(small ? 4 : 5)), 0, 0);
             case "text" -> text(nodes);
             case "plan" -> wholePlan();
+            case "back" -> thereAndBack(nodes);
             default -> call(name, 0, 0, 0);
         }
+    }
+
+    /** Changes and their undoing, and then news for an old turn: what was kept must all have come back. */
+    private void thereAndBack(int nodes) {
+        int changes = 1 + random.nextInt(6);
+        for (int i = 0; i < changes; i++) {
+            call(random.nextInt(6) == 0 ? "reset" : "turn", nodes, 0, 0);
+        }
+        for (int i = 0; i < changes; i++) {
+            call("undo", 0, 0, 0);
+        }
+        int turn = Math.max(0, oracle.count(3) + 1 - oracle.count(4));
+        call("tell", turn, random.nextInt(nodes), 0);
     }
 
     /** Now and then another number in place of a fitting one. */

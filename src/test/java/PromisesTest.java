@@ -456,6 +456,8 @@ public final class PromisesTest {
         is("undo", six.undo(), IMPOSSIBLE);
         is("the oldest was dropped", six.count(5), 0);
         undoRestoresEverything();
+        undoRestoresTheEvader();
+        undoRestoresTheKeptBeliefs();
         onlyChangesAreRecorded();
     }
 
@@ -481,6 +483,61 @@ public final class PromisesTest {
         desk.undo();
         is("P", desk.count(5), 0);
         is("the text is not restored", desk.clearText(), 1);
+    }
+
+    private static void undoRestoresTheEvader() {
+        PursuitDesk desk = path4();
+        desk.hide(0);
+        desk.undo();
+        is("there was none", desk.evader(0), MISSING);
+        desk.hide(0);
+        desk.flee(1);
+        desk.turn();
+        desk.hide(3);
+        is("undo of hide", desk.undo(), 4);
+        is("the other one", desk.evader(0), 1);
+        is("hidden", desk.evader(4), 0);
+        desk.setNews(1, 1);
+        is("news of where the other one was", desk.turn(), 7);
+        desk.put(1);
+        desk.hide(3);
+        desk.undo();
+        is("caught", desk.evader(2), 1);
+        is("when", desk.evader(3), 2);
+        desk.put(2);
+        desk.undo();
+        is("searchers", desk.count(2), 1);
+        desk.order(0, 0);
+        desk.order(0, 2);
+        desk.undo();
+        is("order", desk.searcher(0, 1), 0);
+        desk.setNews(1, 5);
+        desk.undo();
+        is("delay", desk.count(6), 1);
+    }
+
+    private static void undoRestoresTheKeptBeliefs() {
+        PursuitDesk once = path4();
+        once.turn();
+        once.undo();
+        once.put(2);
+        is("put after an undone turn", once.belief(), 11);
+        PursuitDesk desk = path4();
+        for (int i = 0; i < 7; i++) {
+            desk.turn();
+        }
+        desk.reset(4);
+        desk.turn();
+        desk.turn();
+        desk.turn();
+        desk.undo();
+        desk.undo();
+        desk.undo();
+        desk.undo();
+        is("the edges of then", desk.tell(0, 0), 15);
+        is("after turn 1", desk.beliefAfter(1), 3);
+        is("after turn 2", desk.beliefAfter(2), 7);
+        is("after turn 3", desk.beliefAfter(3), 15);
     }
 
     private static void onlyChangesAreRecorded() {
@@ -850,6 +907,13 @@ public final class PromisesTest {
         is("a change is seen", desk.planOrder(0, 0), 2);
         desk.undo();
         is("undo is seen", desk.planTurns(), 2);
+        PursuitDesk many = graph(3, "01 12");
+        many.put(1);
+        many.put(1);
+        many.tell(0, 0);
+        is("of many plans the lowest node of searcher 0", many.planOrder(0, 0), 0);
+        is("and of these the lowest of searcher 1", many.planOrder(0, 1), 0);
+        is("though one of them could stay", many.planMoves(), 1);
     }
 
     private static void planMoves() {
@@ -873,6 +937,11 @@ public final class PromisesTest {
         PursuitDesk ring = graph(4, "01 12 23 30");
         ring.put(0);
         is("no plan", ring.planMoves(), MISSING);
+        PursuitDesk guard = graph(5, "01 12 23 34");
+        guard.put(1);
+        guard.put(4);
+        is("the quickest plan takes four moves", guard.planTurns(), 2);
+        is("one that takes its time takes three", guard.planMoves(), 3);
         PursuitDesk empty = graph(2, "01");
         empty.put(0);
         empty.put(1);
