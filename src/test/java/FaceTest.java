@@ -37,6 +37,7 @@ public final class FaceTest {
         String source = Files.readString(Path.of("src/main/java/PursuitDesk.java"));
         words(source);
         lengths(source);
+        headings(source);
         check.end();
     }
 
@@ -84,6 +85,25 @@ public final class FaceTest {
             boolean named = FACE.stream().anyMatch(f -> f.startsWith(method.getName() + "/"));
             check.holds(method + " bears no public name", each == PursuitDesk.class
                 && Modifier.isPublic(method.getModifiers()) || !named);
+        }
+    }
+
+    /** The document says which headings stand ahead of which calls. */
+    private static void headings(String source) {
+        check.part("headings");
+        String[] heading = {"// ---- the graph and the searchers\n", "// ---- the hidden evader\n",
+            "// ---- what could be; nothing changes\n", "// ---- texts\n"};
+        String[] calls = {"reset link lay put leave order release belief beliefAfter tell turn undo count neighbours searcher",
+            "hide flee setNews evader", "ahead planTurns planOrder planMoves settles leastSearchers bestTurns",
+            "type clearText fault"};
+        int position = 0;
+        for (int i = 0; i < heading.length; i++) {
+            position = source.indexOf(heading[i], position);
+            check.holds("in its place: " + heading[i].trim(), position >= 0);
+            for (String call : calls[i].split(" ")) {
+                position = source.indexOf("public int " + call + "(", Math.max(0, position));
+                check.holds("behind its heading: " + call, position >= 0);
+            }
         }
     }
 
