@@ -100,6 +100,7 @@ final class BoundariesOfPlans {
         String sentence = "Returns the least number of moves of all plans";
         c.run(24, sentence, "one, two and three", "reset(2) link(0,1,1) put(0) planMoves()=1 reset(3) " + Runs.links("01 12") + "put(0) planMoves()=2 reset(4) " + Runs.PATH4 + "put(0) planMoves()=3");
         c.run(24, sentence, "fewer than those of the quickest", "reset(5) " + Runs.links("01 12 23 34") + "put(1) put(4) planTurns()=2 planMoves()=3");
+        c.run(24, sentence, "one guards the middle of a star while the other clears it", Runs.links("01 02 03") + "put(0) put(0) planMoves()=4");
         c.run(24, sentence, "none, if the belief is empty", EMPTY_BELIEF + "planMoves()=0 leave() planMoves()=0 leave() planMoves()=0");
         c.run(24, "A move is an order by which a searcher leaves its node.", "one who stays makes none", Runs.PATH4 + "put(0) put(0) put(0) planMoves()=3");
         c.run(24, "A move is an order by which a searcher leaves its node.", "two who go in one turn make two", Runs.PATH4 + "put(0) put(3) planTurns()=1 planMoves()=2");

@@ -3,6 +3,8 @@ final class Check {
     private int wrong = 0;
     private int right = 0;
     private String part = "";
+    /** Mutants asks only whether a test finds anything. */
+    private final boolean endAtFirst = Boolean.getBoolean("first");
 
     void part(String name) {
         part = name;
@@ -17,6 +19,7 @@ final class Check {
         if (wrong <= 50) {
             System.out.println(part + ": " + call + " answered " + got + ", due is " + due);
         }
+        endIfAsked();
     }
 
     void holds(String what, boolean is) {
@@ -26,6 +29,13 @@ final class Check {
         }
         wrong++;
         System.out.println(part + ": not so: " + what);
+        endIfAsked();
+    }
+
+    private void endIfAsked() {
+        if (endAtFirst) {
+            end();
+        }
     }
 
     void end() {
