@@ -14,9 +14,12 @@ final class Refusals {
         "reset(3) " + Runs.links("01 12 02") + "turn()*8 release() turn()*2 put(1) order(0,2) undo() undo() ",
     };
     private static final String[] NUMBERS = {"LEAST", "-1", "0", "1", "2", "3", "6", "9", "MOST"};
-    private static final Set<String> CHANGES = Set.of("reset", "link", "put", "leave", "hide", "release", "order", "flee", "setNews", "turn", "tell", "lay");
-    private static final String[] CALLS = {"reset1", "link3", "lay0", "put1", "leave0", "order2", "release0", "belief0", "beliefAfter1", "tell2", "turn0",
-        "undo0", "count1", "neighbours1", "searcher2", "hide1", "flee1", "setNews2", "evader1", "ahead0", "planTurns0", "planOrder2", "planMoves0", "settles0",
+    private static final Set<String> CHANGES = Set.of("reset", "link", "put", "leave", "hide", "release", "order", "flee",
+        "setNews", "turn", "tell", "lay");
+    private static final String[] CALLS = {"reset1", "link3", "lay0", "put1", "leave0", "order2", "release0", "belief0",
+        "beliefAfter1", "tell2", "turn0",
+        "undo0", "count1", "neighbours1", "searcher2", "hide1", "flee1", "setNews2", "evader1", "ahead0", "planTurns0",
+            "planOrder2", "planMoves0", "settles0",
         "leastSearchers0", "bestTurns1", "type1", "clearText0", "fault0"};
     private final Cases c;
 
@@ -77,7 +80,8 @@ final class Refusals {
         } else if (!changes) {
             c.same(promise, "The changes are the calls of", call + " is none", state + call, state);
         } else if (CHANGES.contains(name)) {
-            c.run(promise, "A history of at most 5 states is kept", call, state + call + " count(7)=" + Math.min(5, recorded + 1));
+            c.run(promise, "A history of at most 5 states is kept", call, state + call + " count(7)=" + Math.min(5, recorded
+                + 1));
             c.samePresent(promise, "A history of at most 5 states is kept", call + " is undone", state + call + " undo()", state);
         }
     }

@@ -9,9 +9,9 @@ final class Runs {
     static final String BUSY = "reset(5) " + links("01 12 23 34") + "text(0-1;1-2) put(0) turn() hide(3) setNews(3,2) "
         + "order(0,1) flee(4) turn() order(0,2) flee(3) ";
 
-
     /** Three searchers, a caught evader, more turns than beliefs are kept, a full text. */
-    static final String FULL = "reset(6) text(" + ALL_EDGES + ") lay() put(0) put(5) hide(3) put(3) turn()*9 order(0,1) order(2,4) ";
+    static final String FULL = "reset(6) text(" + ALL_EDGES
+        + ") lay() put(0) put(5) hide(3) put(3) turn()*9 order(0,1) order(2,4) ";
 
     private Runs() {
     }
