@@ -114,7 +114,8 @@ final class BoundariesOfGraph {
             "reset(6) " + Runs.links("01 02 03 04 05 12 13 14 15 23 24 25 34 35 45") + "count(1)=15 link(5,4,1)=1 count(1)=15 "
             + "neighbours(0)=62 neighbours(1)=61 neighbours(2)=59 neighbours(3)=55 neighbours(4)=47 neighbours(5)=31 "
             + "link(0,5,0)=1 count(1)=14 neighbours(0)=30 neighbours(5)=30");
-        c.run(3, sentence, "all edges of 2 nodes", "reset(2) link(1,0,1)=0 count(1)=1 neighbours(0)=2 neighbours(1)=1");
+        c.run(3, sentence, "all edges of 2 nodes",
+            "reset(2)=4 count(0)=2 link(1,0,1)=0 count(1)=1 neighbours(0)=2 neighbours(1)=1 neighbours(2)=INVALID");
     }
 
     private void linkDropsOrders() {
@@ -144,7 +145,8 @@ final class BoundariesOfGraph {
         String sentence = "Edges that are changed have an effect from the next turn on";
         c.run(3, sentence, "an edge more", Runs.PATH4 + "tell(0,0)=1 link(0,2,1)=0 belief()=1 beliefAfter(0)=1 turn()=7");
         c.run(3, sentence, "an edge less", Runs.PATH4 + "tell(0,0)=1 turn()=3 link(1,2,0)=1 belief()=3 turn()=3");
-        c.run(3, sentence, "the turns before keep theirs", Runs.PATH4 + "turn() link(0,1,0) tell(0,0)=3 turn()=7");
+        c.run(3, sentence, "the turns before keep theirs, one less", Runs.PATH4 + "turn() link(0,1,0) tell(0,0)=3 turn()=7");
+        c.run(3, sentence, "the turns before keep theirs, one more", "turn() link(0,1,1) tell(0,0)=1 turn()=3");
     }
 
     private void put() {
@@ -163,6 +165,8 @@ final class BoundariesOfGraph {
         c.run(5, "several can be at the same node.", "all three",
             Runs.PATH4 + "put(1)=0 put(1)=1 put(1)=2 belief()=13 searcher(0,0)=1 searcher(1,0)=1 searcher(2,0)=1 order(1,2) "
                 + "turn() searcher(0,0)=1 searcher(1,0)=2");
+        c.run(5, "several can be at the same node.", "two come to where the third one is",
+            Runs.PATH4 + "put(0) put(2) put(1) order(0,1) order(1,1) turn() searcher(0,0)=1 searcher(1,0)=1 searcher(2,0)=1");
         c.refused(5, "LIMIT_REACHED if there are 3", "all places taken", Runs.FULL, "put(0)=LIMIT", "put(5)=LIMIT",
             "put(2)=LIMIT");
         c.run(5, "LIMIT_REACHED if there are 3", "the third and the fourth, and again after one has left",
@@ -241,11 +245,15 @@ final class BoundariesOfGraph {
         c.refused(7, far, "no edges", "put(0) ", "order(0,1)=IMPOSSIBLE", "order(0,3)=IMPOSSIBLE");
         c.run(7, far, "as soon as the edge is there, and not when it is gone",
             "put(0) order(0,3)=IMPOSSIBLE link(3,0,1) order(0,3)=0 order(0,0)=3 link(0,3,0) order(0,3)=IMPOSSIBLE");
-        c.run(7, far, "a neighbour of where it will be is not enough", Runs.PATH4 + "put(0) order(0,1)=0 order(0,2)=IMPOSSIBLE");
+        c.run(7, far, "a neighbour of where it will be is not enough",
+            Runs.PATH4 + "put(0) order(0,1)=0 order(0,2)=IMPOSSIBLE");
         c.refused(7, "If several errors apply to a call", "no such searcher, and too far", Runs.BUSY, "order(1,4)=INVALID",
             "order(-1,4)=INVALID");
         c.run(7, "If there is no node or searcher with a certain number, this is INVALID_ARGUMENT.", "a searcher that has left",
             Runs.PATH4 + "put(0) put(1) order(1,2)=1 leave() order(1,2)=INVALID searcher(1,0)=INVALID planOrder(0,1)=INVALID");
+        c.run(7, "If there is no node or searcher with a certain number, this is INVALID_ARGUMENT.", "a node that is gone",
+            "reset(6) link(0,5,1)=0 put(5)=0 reset(5) put(0) put(5)=INVALID order(0,5)=INVALID link(0,5,1)=INVALID "
+                + "hide(5)=INVALID flee(5)=INVALID tell(0,5)=INVALID neighbours(5)=INVALID");
     }
 
     private void orderIsKept() {
@@ -253,6 +261,11 @@ final class BoundariesOfGraph {
             + "put(1) order(0,0) order(0,2) turn() searcher(0,0)=2");
         c.run(7, "Each searcher has an order, which is its own node or a neighbour of it", "from the beginning",
             Runs.PATH4 + "put(2) searcher(0,1)=2 order(0,3) searcher(0,1)=3 searcher(0,0)=2");
+        c.run(7, "Each searcher has an order, which is its own node or a neighbour of it", "no other node",
+            Runs.PATH4 + "put(2) order(0,0)=IMPOSSIBLE searcher(0,1)=2 order(0,2)=2 order(0,1)=2 order(0,0)=IMPOSSIBLE "
+                + "searcher(0,1)=1");
+        c.run(7, "Each searcher has an order, which is its own node or a neighbour of it", "each its own",
+            Runs.PATH4 + "put(1) put(1) put(2) order(2,3) order(1,0) searcher(0,1)=1 searcher(1,1)=0 searcher(2,1)=3");
         c.run(7, "it goes there in the next turn.", "not before it, and not further in the one after it",
             Runs.PATH4 + "put(0) order(0,1) searcher(0,0)=0 turn() searcher(0,0)=1 turn() searcher(0,0)=1");
     }
@@ -295,7 +308,8 @@ final class BoundariesOfGraph {
         c.run(14, "Returns a number", "every one", Runs.PATH6 + "put(0) put(1) turn()*3 setNews(4,5) "
             + "count(0)=6 count(1)=5 count(2)=2 count(3)=3 count(4)=4 count(5)=4 count(6)=5 count(7)=5");
         c.run(14, "`what`: 0: N", "fewest and most", "reset(2) count(0)=2 reset(6) count(0)=6");
-        c.run(14, "1: the number of edges", "none and all", "reset(6) count(1)=0 text(" + Runs.ALL_EDGES + ") lay() count(1)=15");
+        c.run(14, "1: the number of edges", "none and all",
+            "reset(6) count(1)=0 text(" + Runs.ALL_EDGES + ") lay() count(1)=15");
         c.run(14, "2: K", "none and all", "count(2)=0 put(0)*3 count(2)=3");
         c.run(14, "3: t", "grows with turns only",
             "count(3)=0 turn() count(3)=1 put(0) link(0,1,1) release() count(3)=1 turn() count(3)=2 undo() count(3)=1");
@@ -320,6 +334,8 @@ final class BoundariesOfGraph {
             "link(1,3,1) neighbours(1)=8 neighbours(3)=2 neighbours(0)=0 neighbours(2)=0");
         c.run(15, "Returns the neighbours of a node", "none and all others", Runs.FULL
             + "neighbours(0)=62 neighbours(5)=31 clearText() lay() neighbours(0)=0");
+        c.run(15, "Returns the neighbours of a node", "each node has its own", Runs.PATH6
+            + "neighbours(2)=10 neighbours(3)=20 neighbours(4)=40 neighbours(0)=2");
         c.run(15, "Returns the set of its neighbours", "not those further away", Runs.PATH6
             + "neighbours(0)=2 neighbours(1)=5 neighbours(5)=16");
     }

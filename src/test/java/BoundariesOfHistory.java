@@ -20,6 +20,7 @@ final class BoundariesOfHistory {
         nothingBecomesDifferent();
         whatIsNoChange();
         everyChangeIsUndone();
+        everyKeptBeliefIsRestored();
         atMostFive();
         butTheText();
     }
@@ -79,6 +80,16 @@ final class BoundariesOfHistory {
             Runs.FULL);
         c.samePresent(13, HISTORY, "undo of turns where a ring of eight begins anew", Runs.PATH6
             + "put(0) hide(3) turn()*6 turn()*4 undo()*4", Runs.PATH6 + "put(0) hide(3) turn()*6");
+    }
+
+    private void everyKeptBeliefIsRestored() {
+        String eight = Runs.PATH6 + "tell(0,0) turn()*7 ";
+        for (int turn = 0; turn <= 7; turn++) {
+            c.samePresent(13, HISTORY, "undo of news of turn " + turn, eight + "tell(" + turn + ",0) undo()=4", eight);
+        }
+        String nine = Runs.PATH6 + "tell(0,0) turn()*8 ";
+        c.samePresent(13, HISTORY, "undo of turns in which all eight were replaced", nine + "tell(8,5) turn()*4 undo()*5",
+            nine);
     }
 
     private void atMostFive() {

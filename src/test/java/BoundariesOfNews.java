@@ -56,6 +56,8 @@ final class BoundariesOfNews {
             "turn()*7 count(4)=8 beliefAfter(0)=15 turn() count(4)=8 beliefAfter(0)=MISSING beliefAfter(1)=15");
         c.run(10, sentence, "sixteen turns",
             "turn()*16 count(4)=8 beliefAfter(8)=MISSING beliefAfter(9)=15 beliefAfter(0)=MISSING beliefAfter(16)=15");
+        c.run(10, sentence, "all eight as they were", Runs.PATH6 + "tell(0,0)=1 turn()*6 tell(6,0)=1 turn()=3 beliefAfter(0)=1 "
+            + "beliefAfter(1)=3 beliefAfter(2)=7 beliefAfter(3)=15 beliefAfter(4)=31 beliefAfter(5)=63 beliefAfter(6)=1");
         c.run(10, sentence, "fewer since release", "turn()*5 release() count(4)=1 beliefAfter(4)=MISSING beliefAfter(5)=15 "
             + "turn() count(4)=2 beliefAfter(5)=15 beliefAfter(4)=MISSING");
         c.run(10, sentence, "fewer since lay", "turn()*9 lay() count(4)=1 beliefAfter(8)=MISSING beliefAfter(9)=15 turn()*8 "
@@ -94,6 +96,8 @@ final class BoundariesOfNews {
             "tell(1,0)=IMPOSSIBLE");
         c.refused(11, without, "the earliest that is kept", Runs.FULL, "tell(2,0)=IMPOSSIBLE", "tell(9,3)=IMPOSSIBLE",
             "tell(9,5)=IMPOSSIBLE");
+        c.run(11, without, "not any more in the present one, but then", Runs.PATH4 + "put(0) order(0,1) turn()=12 tell(0,1)=4");
+        c.run(11, without, "in the present one, but not then", Runs.RING4 + "put(0) order(0,1) turn()=13 tell(0,0)=IMPOSSIBLE");
         c.refused(11, without, "an empty belief", "reset(2) put(0) put(1) ", "tell(0,0)=IMPOSSIBLE", "tell(0,1)=IMPOSSIBLE");
         c.refused(11, "If the node was not in the belief, nothing becomes different", "known to be elsewhere",
             Runs.PATH6 + "turn() tell(0,0) ", "tell(0,1)=IMPOSSIBLE", "tell(1,2)=IMPOSSIBLE", "tell(1,5)=IMPOSSIBLE");
@@ -118,6 +122,8 @@ final class BoundariesOfNews {
             Runs.PATH4 + "turn() link(0,1,0) turn() link(0,1,1) turn() tell(1,0)=3 beliefAfter(2)=1 beliefAfter(3)=3");
         c.run(11, anew, "an edge that was there for one turn",
             "link(0,1,1) turn() link(0,1,0) turn() tell(0,0)=3 beliefAfter(1)=3");
+        c.run(11, anew, "an edge that was there eight turns before",
+            "link(0,1,1) turn()*8 link(0,1,0) turn()*8 tell(9,0)=1 beliefAfter(10)=1 beliefAfter(16)=1");
         c.run(11, anew, "the moves of a searcher that has left since",
             Runs.PATH4 + "put(0) order(0,1) turn()=12 order(0,2) turn()=8 leave() tell(0,1)=8 beliefAfter(1)=4");
         c.run(11, anew, "present orders do not count", Runs.PATH4 + "put(0) turn() order(0,1) tell(0,1)=6");
@@ -141,7 +147,8 @@ final class BoundariesOfNews {
                 + "searcher(1,0)=1 searcher(2,0)=2");
         c.run(12, sentence, "the evader stays or goes to a neighbour", Runs.PATH4
             + "hide(0) turn() evader(0)=0 flee(1) turn() evader(0)=1 turn() evader(0)=1");
-        c.run(12, "When a searcher is put on a node, and after each turn, its order is the node at which it is.", "after a turn",
+        c.run(12, "When a searcher is put on a node, and after each turn, its order is the node at which it is.",
+            "after a turn",
             Runs.PATH4 + "put(1) put(1) put(1) order(0,2) order(2,0) turn() searcher(0,1)=2 searcher(1,1)=1 searcher(2,1)=0");
         c.run(12, "Returns the belief then (behind news that is given by itself)", "with and without news",
             Runs.PATH4 + "hide(0) turn()=15 setNews(1,0) ahead()=15 turn()=1 belief()=1");
@@ -158,7 +165,8 @@ final class BoundariesOfNews {
             + "put(0) order(0,1) turn()=4");
         c.run(12, sentence, "to where a searcher was, along another edge", "reset(3) " + Runs.links("01 12 02")
             + "put(0) order(0,1) turn()=5");
-        c.run(12, sentence, "behind a searcher that goes away", "reset(3) " + Runs.links("01 12") + "put(1) order(0,0) turn()=6");
+        c.run(12, sentence, "behind a searcher that goes away",
+            "reset(3) " + Runs.links("01 12") + "put(1) order(0,0) turn()=6");
         c.run(12, sentence, "one of two searchers at a node stays", "reset(3) " + Runs.links("01 12 02")
             + "put(0) put(0) order(0,1) turn()=4");
         c.run(12, sentence, "one of two searchers at a node goes, the second one", "reset(3) " + Runs.links("01 12 02")
@@ -175,7 +183,8 @@ final class BoundariesOfNews {
             "turn()*9999 count(3)=9999 turn()=15 count(3)=10000 turn()=LIMIT count(3)=10000 "
             + "count(7)=5 beliefAfter(10000)=15 beliefAfter(9993)=15 beliefAfter(9992)=MISSING beliefAfter(10001)=INVALID "
                 + "tell(10000,3)=8");
-        c.longRun(12, sentence, "an undone turn can be made again", "turn()*10000 undo()=4 count(3)=9999 turn()=15 turn()=LIMIT");
+        c.longRun(12, sentence, "an undone turn can be made again",
+            "turn()*10000 undo()=4 count(3)=9999 turn()=15 turn()=LIMIT");
         c.longRun(12, sentence, "after reset there is time again", "turn()*10000 turn()=LIMIT reset(4)=4 turn()=15 count(3)=1");
         c.refused(12, sentence, "nobody goes", Runs.PATH4 + "put(0) hide(2) setNews(1,0) turn()*10000 order(0,1) flee(3) ",
             "turn()=LIMIT");
@@ -266,8 +275,10 @@ final class BoundariesOfNews {
             "flee(-1)=INVALID");
         c.run(18, "Gives the hidden evader an order", "the last one counts", Runs.PATH4
             + "hide(1) flee(0) flee(2) turn() evader(0)=2");
-        c.run(18, "It has an order, too, which is its node or a neighbour of it", "to a searcher's node too", Runs.PATH4
-            + "put(2) hide(1) flee(2)=1 evader(1)=2 evader(2)=0");
+        String order = "It has an order, too, which is its node or a neighbour of it";
+        c.run(18, order, "to a searcher's node too", Runs.PATH4 + "put(2) hide(1) flee(2)=1 evader(1)=2 evader(2)=0");
+        c.run(18, order, "its node, a neighbour, no other", Runs.PATH4
+            + "hide(1) evader(1)=1 flee(3)=IMPOSSIBLE evader(1)=1 flee(2)=1 flee(3)=IMPOSSIBLE evader(1)=2 flee(1)=2 evader(1)=1");
     }
 
     private void setNews() {
@@ -310,7 +321,8 @@ final class BoundariesOfNews {
             + "beliefAfter(0)=1 beliefAfter(1)=3 beliefAfter(2)=7 beliefAfter(4)=31 beliefAfter(5)=63");
         c.run(19, BY_ITSELF, "delay 7, the earliest of eight", Runs.PATH6 + "hide(0) turn()*9 setNews(1,7) turn()=63 "
             + "beliefAfter(3)=1 beliefAfter(4)=3 beliefAfter(7)=31 beliefAfter(2)=MISSING");
-        c.run(19, BY_ITSELF, "t is a multiple and less than the delay", Runs.PATH6 + "hide(0) setNews(2,3) turn()*2 belief()=63 "
+        c.run(19, BY_ITSELF, "t is a multiple and less than the delay",
+            Runs.PATH6 + "hide(0) setNews(2,3) turn()*2 belief()=63 "
             + "beliefAfter(0)=63 turn()=63 turn()=15 beliefAfter(1)=1 beliefAfter(0)=63");
     }
 
@@ -358,6 +370,8 @@ final class BoundariesOfNews {
             Runs.PATH4 + "put(1) hide(2) evader(0)=2 order(0,2) flee(1) turn() evader(0)=1");
         c.run(20, "`what`: 0: its node (if it was caught in a turn, the one to which it went then)", "first and last node",
             "reset(6) hide(0) evader(0)=0 hide(5) evader(0)=5");
+        c.run(20, "`what`: 0: its node (if it was caught in a turn, the one to which it went then)", "not yet where it will go",
+            Runs.PATH4 + "hide(2) flee(3) evader(0)=2 turn() evader(0)=3 flee(2) put(3) evader(0)=3");
         c.run(20, "1: the node of its order", "other than its node", Runs.PATH4 + "hide(0) flee(1) evader(1)=1 evader(0)=0");
         c.run(20, "2: 1 if it is caught, otherwise 0", "both", "hide(0) evader(2)=0 put(0) evader(2)=1 undo() evader(2)=0");
         c.run(20, "3: t when it was caught, 0 if it is not", "never, at turn 0, in turn 1, later", Runs.PATH4

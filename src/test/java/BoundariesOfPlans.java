@@ -12,6 +12,7 @@ final class BoundariesOfPlans {
 
     void run() {
         nothingChanges();
+        nothingChangesByOneCall();
         ahead();
         planTurns();
         plans();
@@ -33,11 +34,30 @@ final class BoundariesOfPlans {
         }
     }
 
+    /** What the calls above show is seen by other calls here, since a Sight itself asks what could be. */
+    private void nothingChangesByOneCall() {
+        String before = "text(0-1;1-2;2-3;) lay() put(0) hide(3) tell(0,3) order(0,1) flee(2) setNews(2,1) ";
+        String[] calls = {"ahead()=12", "planTurns()=3", "planOrder(0,0)=1", "planMoves()=3", "settles()=2",
+            "leastSearchers()=1",
+            "bestTurns(1)=3", "bestTurns(2)=1", "bestTurns(3)=1"};
+        for (int i = 0; i < calls.length; i++) {
+            int promise = Math.min(21 + i, 27);
+            c.run(promise, "nothing changes", "neither state nor text, " + calls[i], before + calls[i]
+                + " count(0)=4 count(1)=3 count(2)=1 count(3)=0 count(4)=1 count(5)=2 count(6)=1 count(7)=5 belief()=8 "
+                + "beliefAfter(0)=8 searcher(0,0)=0 searcher(0,1)=1 evader(0)=3 evader(1)=2 evader(2)=0 evader(4)=0 "
+                + "neighbours(1)=5 fault()=MISSING clearText()=12");
+            c.run(promise, "nothing changes", "nor the history, " + calls[i], before + calls[i]
+                + " undo()=4 count(5)=0 undo()=3 evader(1)=3 undo()=2 searcher(0,1)=0 undo()=1 belief()=14 undo()=0 "
+                + "evader(0)=MISSING undo()=IMPOSSIBLE");
+        }
+    }
+
     private void ahead() {
         String sentence = "Returns the belief that there would be after a turn with the present orders, without any news";
         c.run(21, sentence, "no searchers", Runs.PATH4 + "tell(0,0)=1 ahead()=3 belief()=1 count(3)=0");
         c.run(21, sentence, "present orders", Runs.PATH4 + "put(0) ahead()=14 order(0,1) ahead()=12 order(0,0) ahead()=14");
-        c.run(21, sentence, "all three", Runs.PATH4 + "put(0) put(0) put(3) order(1,1) ahead()=4 order(2,2) ahead()=0 turn()=0");
+        c.run(21, sentence, "all three",
+            Runs.PATH4 + "put(0) put(0) put(3) order(1,1) ahead()=4 order(2,2) ahead()=0 turn()=0");
         c.run(21, "Returns the belief", "empty", EMPTY_BELIEF + "ahead()=0");
         c.run(21, sentence, "news would have come", Runs.PATH4 + "hide(0) setNews(1,0) ahead()=15 turn()=1 ahead()=3");
         c.longRun(21, sentence, "at the limit of t", Runs.PATH4
@@ -68,6 +88,7 @@ final class BoundariesOfPlans {
         c.run(22, PLAN, "news is not counted on", Runs.RING4
             + "put(0) hide(2) setNews(1,0) planTurns()=MISSING planMoves()=MISSING");
         c.run(22, PLAN, "the hidden evader is not known of", Runs.PATH4 + "put(0) hide(1) flee(0) planTurns()=3 planMoves()=3");
+        c.run(22, PLAN, "not even next to a searcher", Runs.PATH4 + "put(1) hide(0) planTurns()=4 planMoves()=4");
         c.run(22, PLAN, "present orders do not count", Runs.PATH4
             + "put(0) order(0,1) planTurns()=3 planOrder(0,0)=1 planMoves()=3");
         c.run(22, PLAN, "of this belief", Runs.PATH4 + "put(0) tell(0,1)=2 planTurns()=3 put(2) planTurns()=1");
@@ -75,7 +96,8 @@ final class BoundariesOfPlans {
             + "turn()*10000 put(0) planTurns()=2 planOrder(0,0)=1 planOrder(1,0)=2 planOrder(2,0)=MISSING planMoves()=2");
         c.longRun(22, PLAN, "nor what is left to it", "reset(3) " + Runs.links("01 12")
             + "turn()*9999 put(0) planTurns()=2 planMoves()=2");
-        c.run(22, PLAN, "a change is seen, and undo", Runs.PATH4 + "put(0) planTurns()=3 link(1,2,0) planTurns()=MISSING undo() "
+        c.run(22, PLAN, "a change is seen, and undo",
+            Runs.PATH4 + "put(0) planTurns()=3 link(1,2,0) planTurns()=MISSING undo() "
             + "planTurns()=3 order(0,1) turn() planTurns()=2 undo() planTurns()=3");
     }
 
@@ -134,6 +156,8 @@ final class BoundariesOfPlans {
             + "put(1) put(4) planTurns()=2 planMoves()=3");
         c.run(24, sentence, "one guards the middle of a star while the other clears it", Runs.links("01 02 03")
             + "put(0) put(0) planMoves()=4");
+        c.run(24, sentence, "one after the other costs less than both at once", Runs.links("01 02 03 12")
+            + "put(0) put(1) put(1) planMoves()=2");
         c.run(24, sentence, "none, if the belief is empty", EMPTY_BELIEF
             + "planMoves()=0 leave() planMoves()=0 leave() planMoves()=0");
         c.run(24, "A move is an order by which a searcher leaves its node.", "one who stays makes none", Runs.PATH4
@@ -173,6 +197,10 @@ final class BoundariesOfPlans {
             + ") lay() leastSearchers()=MISSING");
         c.run(26, sentence, "those that there are do not count", Runs.PATH4
             + "put(1) put(1) put(1) tell(0,3)=8 leastSearchers()=1");
+        c.run(26, sentence, "though those that there are have no plan", Runs.RING4
+            + "put(0) planTurns()=MISSING leastSearchers()=2");
+        c.run(26, sentence, "every other node is in the belief, the first and the last too",
+            "reset(2) leastSearchers()=2 reset(3) link(1,2,1) leastSearchers()=2 reset(3) link(0,1,1) leastSearchers()=2");
         c.run(26, sentence, "nor does the belief, and the edges do", Runs.PATH4
             + "tell(0,0)=1 leastSearchers()=1 link(1,2,0) leastSearchers()=2");
     }
@@ -185,6 +213,7 @@ final class BoundariesOfPlans {
             "reset(2) bestTurns(2)=0 bestTurns(3)=0 reset(3) bestTurns(3)=0 bestTurns(2)=MISSING");
         c.run(27, sentence, "those that there are do not count", Runs.PATH4
             + "put(1) put(1) put(1) tell(0,3)=8 bestTurns(1)=3 bestTurns(2)=1");
+        c.run(27, sentence, "nor do their places", Runs.PATH4 + "put(1) planTurns()=4 bestTurns(1)=3 put(1) bestTurns(2)=1");
         c.run(27, sentence, "the belief does not count, not even an empty one", EMPTY_BELIEF + "link(0,1,1) bestTurns(1)=1");
         String[] wrong = {"bestTurns(0)=INVALID", "bestTurns(4)=INVALID", "bestTurns(-1)=INVALID", "bestTurns(LEAST)=INVALID",
             "bestTurns(MOST)=INVALID"};

@@ -26,7 +26,8 @@ final class BoundariesOfTexts {
     private void lay() {
         c.run(4, "Replaces all edges by those of the text.", "others, none of those before", Runs.PATH4
             + "text(0-3;) lay()=1 neighbours(0)=8 neighbours(1)=0 neighbours(2)=0 neighbours(3)=1");
-        c.run(4, "Replaces all edges by those of the text.", "an empty text", Runs.PATH4 + "lay()=0 count(1)=0 neighbours(1)=0");
+        c.run(4, "Replaces all edges by those of the text.", "an empty text",
+            Runs.PATH4 + "lay()=0 count(1)=0 neighbours(1)=0");
         c.run(4, "Replaces all edges by those of the text.", "the same edges", Runs.PATH4
             + "text(3-2;2-1;1-0;) lay()=3 count(1)=3 neighbours(1)=5");
         c.run(4, "Returns the number of edges", "all of 6 nodes", "reset(6) text(" + Runs.ALL_EDGES + ") lay()=15 count(1)=15 "
@@ -96,13 +97,16 @@ final class BoundariesOfTexts {
     }
 
     private void faultOfSigns() {
-        String[] texts = {"0_1;", "0 1;", "0,1;", "0.1;", "001;", "0-1:", "0-1<", "0-1 ", "0-1-", "a-1;", "0-a;", "/-1;", "0-/;",
+        String[] texts = {"0_1;", "0 1;", "0,1;", "0.1;", "001;", "0-1:", "0-1<", "0-1 ", "0-1-", "a-1;", "0-a;", "/-1;",
+            "0-/;",
             ":-1;", "0-:;", " -1;", "0- ;", "--1;", "0--;", ";", "-", "0;1;", "01;", "0-12;"};
         for (String text : texts) {
             c.run(30, GRAPH, "sign in " + text, "text(" + text + ") fault()=0");
         }
         c.run(30, GRAPH, "an edge, and one that is only begun",
             "text(0-1;) fault()=MISSING text(1) fault()=4 text(-) fault()=4 text(2) fault()=4 text(;) fault()=MISSING");
+        c.run(30, GRAPH, "what was emptied does not end an edge",
+            "text(0-1;) clearText() text(0-1) fault()=0 text(;) fault()=MISSING");
         c.run(30, GRAPH, "nothing between edges",
             "text(0-1;;1-2;) fault()=4 clearText() text(0-1; 1-2;) fault()=4 clearText() text(0-1;1-2; ) fault()=8");
     }

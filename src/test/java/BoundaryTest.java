@@ -17,7 +17,7 @@ public final class BoundaryTest {
     }
 
     /** The summary, what is left free, and the headings, which FaceTest looks for. */
-    private static void passOverWhatNoCallShows(Document document) {
+    static void passOverWhatNoCallShows(Document document) {
         document.passOver("Pursuit on small graphs");
         document.passOver("the set of nodes at which it can be, meetings");
         document.passOver("what later calls answer is free");

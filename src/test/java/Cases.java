@@ -5,54 +5,71 @@ import java.util.function.Function;
 final class Cases {
     private final Check check = new Check();
     private final Document document;
+    /** Breaks asks only for the cases that name this sentence. */
+    private final String only = System.getProperty("only", "");
     private int cases = 0;
 
     Cases(Document document) {
         this.document = document;
     }
 
-    /** Sentences are given by how they begin; several of them are joined by " | ". */
-    private void begin(int promise, String sentences, String title) {
-        for (String sentence : sentences.split(" \\| ")) {
-            document.name(promise, sentence);
-        }
-        cases++;
-        check.part("promise " + promise + " (" + sentences + "), " + title);
+    /** A sentence is given by how it begins. False if this case is not asked for. */
+    private boolean begin(int promise, String sentence, String title) {
+        document.name(promise, sentence);
+        boolean asked = asksFor(promise, sentence);
+        cases += asked ? 1 : 0;
+        check.part("promise " + promise + " (" + sentence + "), " + title);
+        return asked;
+    }
+
+    /** Whether cases that name this sentence are run. */
+    boolean asksFor(int promise, String sentence) {
+        return only.isEmpty() || only.equals(document.inFull(promise, sentence));
     }
 
     /** A run of calls on a new object, with answers that are due. */
-    void run(int promise, String sentences, String title, String script) {
-        begin(promise, sentences, title);
+    void run(int promise, String sentence, String title, String script) {
+        if (!begin(promise, sentence, title)) {
+            return;
+        }
         Script run = new Script().run(check, script);
         check.holds("the case has an answer that is due", run.answersDue() > 0);
         check.holds("the object is used for at most 512 calls", run.calls() <= Script.MOST_CALLS);
     }
 
     /** As run, beyond the calls for which an object is used: the limit of t cannot be reached with fewer. */
-    void longRun(int promise, String sentences, String title, String script) {
-        begin(promise, sentences, title);
+    void longRun(int promise, String sentence, String title, String script) {
+        if (!begin(promise, sentence, title)) {
+            return;
+        }
         Script run = new Script().run(check, script);
         check.holds("the case has an answer that is due", run.answersDue() > 0);
     }
 
     /** Each of these calls, with its answer, is refused after this run, and an object shows the same without it. */
-    void refused(int promise, String sentences, String title, String before, String... calls) {
+    void refused(int promise, String sentence, String title, String before, String... calls) {
         for (String call : calls) {
-            begin(promise, sentences, title + ", " + call);
+            if (!begin(promise, sentence, title + ", " + call)) {
+                continue;
+            }
             check.holds("the case has an answer that is due", new Script().run(check, before + " " + call).answersDue() > 0);
             showTheSame(before + " " + call, before);
         }
     }
 
     /** Two runs of calls lead to the same, as far as any call shows, the history too. */
-    void same(int promise, String sentences, String title, String one, String other) {
-        begin(promise, sentences, title);
+    void same(int promise, String sentence, String title, String one, String other) {
+        if (!begin(promise, sentence, title)) {
+            return;
+        }
         showTheSame(one, other);
     }
 
     /** Two runs of calls lead to the same but for the history. */
-    void samePresent(int promise, String sentences, String title, String one, String other) {
-        begin(promise, sentences, title);
+    void samePresent(int promise, String sentence, String title, String one, String other) {
+        if (!begin(promise, sentence, title)) {
+            return;
+        }
         compare(one, other, Sight::ofPresent);
         compare(one, other, Sight::ofNews);
     }
@@ -81,9 +98,11 @@ final class Cases {
     }
 
     void end() {
-        for (String sentence : document.sentencesWithoutTest()) {
+        if (only.isEmpty()) {
             check.part("../shared/DOC.md");
-            check.holds("a test names the sentence of " + sentence, false);
+            for (String sentence : document.sentencesWithoutTest()) {
+                check.holds("a test names the sentence of " + sentence, false);
+            }
         }
         System.out.println(cases + " cases");
         check.end();

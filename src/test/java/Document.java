@@ -21,6 +21,10 @@ final class Document {
             this.promise = promise;
             this.words = words;
         }
+
+        String inFull() {
+            return (promise == TERMS ? "terms: " : "promise " + promise + ": ") + words;
+        }
     }
 
     private final List<Sentence> sentences = new ArrayList<>();
@@ -52,6 +56,15 @@ final class Document {
 
     /** Notes that a test names the sentence that begins so, of this promise or, if it has none, of the terms. */
     void name(int promise, String beginning) {
+        sentence(promise, beginning).named = true;
+    }
+
+    /** The whole sentence that begins so, with where it stands. */
+    String inFull(int promise, String beginning) {
+        return sentence(promise, beginning).inFull();
+    }
+
+    private Sentence sentence(int promise, String beginning) {
         Sentence sentence = find(promise, beginning);
         if (sentence == null) {
             sentence = find(TERMS, beginning);
@@ -59,7 +72,7 @@ final class Document {
         if (sentence == null) {
             throw new IllegalStateException("neither promise " + promise + " nor the terms say: " + beginning);
         }
-        sentence.named = true;
+        return sentence;
     }
 
     /** Notes that the sentence that begins so says nothing that a call could show. */
@@ -87,7 +100,7 @@ final class Document {
         List<String> without = new ArrayList<>();
         for (Sentence sentence : sentences) {
             if (!sentence.named) {
-                without.add((sentence.promise == TERMS ? "terms: " : "promise " + sentence.promise + ": ") + sentence.words);
+                without.add(sentence.inFull());
             }
         }
         return without;

@@ -1,25 +1,19 @@
 import java.io.IOException;
 import java.nio.file.Files;
-import java.nio.file.Path;
 import java.util.ArrayList;
 import java.util.List;
 import java.util.concurrent.ExecutionException;
 import java.util.concurrent.ExecutorService;
 import java.util.concurrent.Executors;
 import java.util.concurrent.Future;
-import java.util.concurrent.TimeUnit;
 import java.util.regex.Matcher;
 import java.util.regex.Pattern;
-import javax.tools.JavaCompiler;
-import javax.tools.ToolProvider;
 
 /**
  * Puts one small fault after the other into the class and says which of them a test does not find. It takes
  * minutes, so .ci/run leaves it out: java -cp (compiled tests) Mutants BoundaryTest, from the project's directory.
  */
 final class Mutants {
-    private static final Path SOURCE = Path.of("src/main/java/PursuitDesk.java");
-    private static final int SECONDS = 100;
     /** What is looked for, and what takes its place; $1 and so on are groups. */
     private static final String[][] FAULTS = {
         {" < ", " <= "}, {" <= ", " < "}, {" > ", " >= "}, {" >= ", " > "}, {" == ", " != "}, {" != ", " == "},
@@ -33,20 +27,15 @@ final class Mutants {
         {"^( {8,})if \\(.*\\) \\{$", "$1if (true) {"}, {"^( {8,})if \\(.*\\) \\{$", "$1if (false) {"},
     };
 
-    private final String test;
-    private final String classes;
-    private final Path room;
+    private final Trial trial;
 
-    private Mutants(String test, String classes, Path room) {
-        this.test = test;
-        this.classes = classes;
-        this.room = room;
+    private Mutants(Trial trial) {
+        this.trial = trial;
     }
 
     public static void main(String[] args) throws IOException, InterruptedException, ExecutionException {
-        Mutants mutants = new Mutants(args.length > 0 ? args[0] : "BoundaryTest", System.getProperty("java.class.path"),
-            Files.createTempDirectory("mutants"));
-        mutants.runAll(Files.readAllLines(SOURCE));
+        Mutants mutants = new Mutants(new Trial(args.length > 0 ? args[0] : "BoundaryTest"));
+        mutants.runAll(Files.readAllLines(Trial.SOURCE));
     }
 
     private void runAll(List<String> lines) throws IOException, InterruptedException, ExecutionException {
@@ -58,12 +47,12 @@ final class Mutants {
                 changed.set(i, fault);
                 String name = (i + 1) + ": " + lines.get(i).trim() + "   =>   " + fault.trim();
                 int number = results.size();
-                results.add(workers.submit(() -> name + "\n      " + tryFault(number, changed)));
+                results.add(workers.submit(() -> name + "\n      " + trial.run(number, String.join("\n", changed))));
             }
         }
         int found = 0;
         for (Future<String> result : results) {
-            boolean isFound = !result.get().endsWith("NOT FOUND");
+            boolean isFound = !result.get().endsWith(Trial.NOT_FOUND);
             found += isFound ? 1 : 0;
             System.out.println(result.get());
         }
@@ -89,26 +78,5 @@ final class Mutants {
             }
         }
         return faults;
-    }
-
-    private String tryFault(int number, List<String> source) throws IOException, InterruptedException {
-        Path place = Files.createDirectory(room.resolve("m" + number));
-        Path file = Files.write(place.resolve("PursuitDesk.java"), source);
-        JavaCompiler compiler = ToolProvider.getSystemJavaCompiler();
-        if (compiler.run(null, Files.newOutputStream(place.resolve("javac")), Files.newOutputStream(place.resolve("javac2")),
-            "-d", place.toString(), file.toString()) != 0) {
-            return "does not compile";
-        }
-        Path out = place.resolve("out");
-        Process process = new ProcessBuilder("java", "-XX:+UseSerialGC", "-XX:TieredStopAtLevel=1", "-Dfirst=true", "-cp",
-            place + ":" + classes, test).redirectErrorStream(true).redirectOutput(out.toFile()).start();
-        if (!process.waitFor(SECONDS, TimeUnit.SECONDS)) {
-            process.destroyForcibly();
-            return "does not end";
-        }
-        if (process.exitValue() == 0) {
-            return "NOT FOUND";
-        }
-        return Files.readAllLines(out).stream().findFirst().orElse("");
     }
 }

@@ -11,9 +11,10 @@ final class Refusals {
         Runs.RING4 + "put(0) put(2) hide(1) setNews(1,1) flee(2) turn() text(0-1;0-1;) ",
         Runs.BUSY,
         Runs.FULL,
+        Runs.RING4 + "hide(1) setNews(3,7) turn()*8 flee(2) text(0-1;2) ",
         "reset(3) " + Runs.links("01 12 02") + "turn()*8 release() turn()*2 put(1) order(0,2) undo() undo() ",
     };
-    private static final String[] NUMBERS = {"LEAST", "-1", "0", "1", "2", "3", "6", "9", "MOST"};
+    private static final String[] NUMBERS = {"LEAST", "-1", "0", "1", "2", "3", "6", "9", "65", "MOST"};
     private static final Set<String> CHANGES = Set.of("reset", "link", "put", "leave", "hide", "release", "order", "flee",
         "setNews", "turn", "tell", "lay");
     private static final String[] CALLS = {"reset1", "link3", "lay0", "put1", "leave0", "order2", "release0", "belief0",
@@ -21,6 +22,9 @@ final class Refusals {
         "undo0", "count1", "neighbours1", "searcher2", "hide1", "flee1", "setNews2", "evader1", "ahead0", "planTurns0",
             "planOrder2", "planMoves0", "settles0",
         "leastSearchers0", "bestTurns1", "type1", "clearText0", "fault0"};
+    private static final String ERROR = "A call that returns an error changes nothing.";
+    private static final String CHANGE = "The changes are the calls of";
+    private static final String HISTORY = "A history of at most 5 states is kept";
     private final Cases c;
 
     Refusals(Cases cases) {
@@ -72,17 +76,19 @@ final class Refusals {
     }
 
     private void tryCall(int promise, String name, String state, String call) {
+        if (!c.asksFor(promise, ERROR) && !c.asksFor(promise, CHANGE) && !c.asksFor(promise, HISTORY)) {
+            return;
+        }
         int recorded = c.answer(state, "count(7)");
         int answer = c.answer(state, call);
         boolean changes = CHANGES.contains(name) || name.equals("undo") || name.equals("type") || name.equals("clearText");
         if (answer < 0) {
-            c.same(promise, "A call that returns an error changes nothing.", call, state + call, state);
+            c.same(promise, ERROR, call, state + call, state);
         } else if (!changes) {
-            c.same(promise, "The changes are the calls of", call + " is none", state + call, state);
+            c.same(promise, CHANGE, call + " is none", state + call, state);
         } else if (CHANGES.contains(name)) {
-            c.run(promise, "A history of at most 5 states is kept", call, state + call + " count(7)=" + Math.min(5, recorded
-                + 1));
-            c.samePresent(promise, "A history of at most 5 states is kept", call + " is undone", state + call + " undo()", state);
+            c.run(promise, HISTORY, call, state + call + " count(7)=" + Math.min(5, recorded + 1));
+            c.samePresent(promise, HISTORY, call + " is undone", state + call + " undo()", state);
         }
     }
 }

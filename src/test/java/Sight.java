@@ -3,6 +3,7 @@ import java.util.List;
 
 /** All that calls show of an object, as lines "call = answer": two objects in the same state show the same. */
 final class Sight {
+    private static final int MORE_THAN_KEPT = 9;
     private final List<String> lines = new ArrayList<>();
     private final PursuitDesk desk;
 
@@ -27,7 +28,7 @@ final class Sight {
     static List<String> ofHistory(PursuitDesk desk) {
         Sight sight = new Sight(desk);
         sight.present();
-        while (sight.see("undo") >= 0) {
+        for (int i = 0; i < MORE_THAN_KEPT && sight.see("undo") >= 0; i++) {
             sight.present();
         }
         sight.text();
