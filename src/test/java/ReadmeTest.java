@@ -97,7 +97,7 @@ public final class ReadmeTest {
             String name = named.group(1) == null ? named.group(2) : named.group(1);
             check.holds("there is a " + name, classes.contains(name));
         }
-        for (String file : new String[] {".ci/run", "src/main/java/PursuitDesk.java", "../shared/DOC.md", "../shared/LANGUAGE.md",
+        for (String file : new String[] {".ci/run", "src/main/java/PursuitDesk.java", "../shared/DOC.md",
             "../shared/tests"}) {
             check.holds("names " + file, page.contains(file));
             check.holds("there is " + file, Files.exists(Path.of(file)));
