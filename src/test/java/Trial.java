@@ -5,6 +5,7 @@ import java.nio.file.Path;
 import java.util.ArrayList;
 import java.util.List;
 import java.util.concurrent.TimeUnit;
+import java.util.stream.Stream;
 import javax.tools.ToolProvider;
 
 /** Compiles the class with a fault in it, and runs a test of this class path with that instead of the class itself. */
@@ -25,6 +26,23 @@ final class Trial {
     /** What the test says first about the fault, or NOT_FOUND. Properties are such as "first=true". */
     String run(int number, String source, String... properties) throws IOException, InterruptedException {
         Path place = Files.createDirectory(room.resolve("fault" + number));
+        try {
+            return compileAndRun(place, source, properties);
+        } finally {
+            cleanUp(place);
+        }
+    }
+
+    private static void cleanUp(Path place) throws IOException {
+        try (Stream<Path> files = Files.list(place)) {
+            for (Path file : files.toList()) {
+                Files.delete(file);
+            }
+        }
+        Files.delete(place);
+    }
+
+    private String compileAndRun(Path place, String source, String... properties) throws IOException, InterruptedException {
         Path file = Files.writeString(place.resolve("PursuitDesk.java"), source);
         if (ToolProvider.getSystemJavaCompiler().run(null, OutputStream.nullOutputStream(), OutputStream.nullOutputStream(),
             "-d", place.toString(), file.toString()) != 0) {
